@@ -10,6 +10,8 @@ public final class KeysTest {
         insert();
         insertTillMade();
         insertWhenFull();
+        lateKeysOfOthersStay();
+        lateKeysComeAndGo();
         drop();
         dropAll();
         at();
@@ -134,6 +136,47 @@ public final class KeysTest {
         due.is("15 find", x.find(4), 1);
     }
 
+    /** Twenty pieces of two keys, 100 apart, and each with ten late keys. */
+    private static LeaningIndex withLateKeys() {
+        LeaningIndex x = new LeaningIndex();
+        x.margin(0);
+        for (int i = 0; i < 20; i++) {
+            x.load(100L * i);
+            x.load(100L * i + 50 - i);
+        }
+        due.is("15 twenty pieces", x.build(1), 20);
+        for (int i = 0; i < 200; i++) {
+            due.is("15 late", x.insert(100L * (i / 10) + 51 + i % 10), 1);
+        }
+        return x;
+    }
+
+    private static void lateKeysOfOthersStay() {
+        LeaningIndex x = withLateKeys();
+        x.margin(40);
+        // Each merge makes one piece of the first two, till two are left.
+        for (int left = 19; left > 1; left--) {
+            due.is("13 merge", x.merge(0), 1);
+            due.is("13 pieces left", x.pieces(-1), left);
+            for (int p = 1; p < left; p++) {
+                due.is("13 late keys of " + p, x.piece(-1, p, 3), 10);
+                due.is("13 first late key of " + p, x.key(p, 0, true), 100L * (20 - left + p) + 51);
+                due.is("13 last late key of " + p, x.key(p, 9, true), 100L * (20 - left + p) + 60);
+            }
+        }
+        due.is("13 keys", x.count(2), 240);
+    }
+
+    private static void lateKeysComeAndGo() {
+        LeaningIndex x = withLateKeys();
+        for (int i = 0; i < 125; i++) {
+            due.is("16 a late one goes", x.drop(100L * (i % 20) + 55), 1);
+            due.is("15 and comes", x.insert(100L * (i % 20) + 55), 1);
+        }
+        due.is("15 late keys", x.piece(-1, 3, 3), 10);
+        due.is("15 keys", x.count(2), 240);
+    }
+
     private static void drop() {
         LeaningIndex x = IndexTest.sample();
         due.is("16 no index", x.drop(1), NONE);
@@ -189,7 +232,8 @@ public final class KeysTest {
         x.insert(2000000);
         x.insert(101);
         x.drop(0);
-        long[] keys = {-5, 1, 2, 3, 4, 100, 101, 103, 106, 109, 112, 115, 1000, 1000000, 1000001, 1000002, 2000000};
+        long[] keys = {-5, 1, 2, 3, 4, 100, 101, 103, 106, 109, 112, 115, 1000,
+            1000000, 1000001, 1000002, 2000000};
         for (int i = 0; i < keys.length; i++) {
             due.is("17 at " + i, x.at(i), keys[i]);
         }

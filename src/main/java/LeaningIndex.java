@@ -199,7 +199,8 @@ public final class LeaningIndex {
     private int replace(int from, int to, int keys, int kind) {
         spare.empty();
         spare.takeOver(index, 0, from);
-        int came = spare.makePieces(scratch, keys, kind == ROUNDED ? marginNow - 1 : marginNow, marginNow, slopes);
+        int m = kind == ROUNDED ? marginNow - 1 : marginNow;
+        int came = spare.makePieces(scratch, keys, m, marginNow, slopes);
         if (kind == ROUNDED) {
             spare.roundPieces(from, from + came);
         }
@@ -490,7 +491,7 @@ public final class LeaningIndex {
         private long highRun = 0;
         private int pivot = 0;
 
-        /** Where the span ends that begins at start; its bounds are kept for tellLine(). */
+        /** Where the span ends that begins at start; its least UPPER is kept for tellLine(). */
         int endOfSpan(long[] keys, int start, int size, int m) {
             forget();
             int end = start + 1;
@@ -528,10 +529,8 @@ public final class LeaningIndex {
             pivot = 0;
         }
 
-        /** Whether a line passes key j too; if none does, the bounds stay those without it. */
+        /** Whether a line passes key j too; if none does, the least UPPER stays that without it. */
         private boolean admit(long[] keys, int start, int j, int m) {
-            long wasLowRise = lowRise;
-            long wasLowRun = lowRun;
             long wasHighRise = highRise;
             long wasHighRun = highRun;
             int wasPivot = pivot;
@@ -541,8 +540,6 @@ public final class LeaningIndex {
             if (leaveSome()) {
                 return true;
             }
-            lowRise = wasLowRise;
-            lowRun = wasLowRun;
             highRise = wasHighRise;
             highRun = wasHighRun;
             pivot = wasPivot;
@@ -924,7 +921,7 @@ public final class LeaningIndex {
             return true;
         }
 
-        /** Where the key that a piece leads to stands in its tier's row; below a layer it is a piece's number. */
+        /** The place in the tier's row of the key that piece p leads to: a piece's number below. */
         private int descend(Tier tier, int p, long k) {
             Piece atHand = tier.pieceAt(p);
             if (atHand == null) {
