@@ -12,11 +12,12 @@ public final class LeaningIndex {
     private static final int THE_INDEX = -1;
 
     // Dropped keys stay in their pieces, so the index holds more than the 300 that are there.
-    // Only an insert() brings one more, and an object is used for 512 calls.
-    private static final int ROOM = 1024;
+    // An insert() brings one more only after a drop() has made room, and an object is used for
+    // 512 calls: fewer than 256 come so. No larger, for all objects of a run share one room.
+    private static final int ROOM = 2 * MOST_KEYS;
 
     // Two keys always have a line, so each piece of a layer but the last has two keys or more:
-    // a layer has at most half (rounded up) of the pieces below it, and 1024 end after ten.
+    // a layer has at most half (rounded up) of the pieces below it, and 600 end after ten.
     private static final int MOST_LAYERS = 10;
 
     private final long[] row = new long[MOST_KEYS];
@@ -484,7 +485,7 @@ public final class LeaningIndex {
     /** How steep a line may be that passes some points: from the greatest LOWER to the least UPPER. */
     private static final class Slopes {
         // Each is a rise above a run. -1 / 0 and 1 / 0 are no bound yet: multiplied crosswise
-        // they compare as they should, and no product here is above 10^15.
+        // they compare as they should, and each product here is below 10^16.
         private long lowRise = -1;
         private long lowRun = 0;
         private long highRise = 1;
